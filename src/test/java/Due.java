@@ -1,0 +1,28 @@
+/** Counts and prints the answers that are not the ones that are due. */
+final class Due {
+    private final String test;
+    private int wrong;
+    private int looked;
+
+    Due(String test) {
+        this.test = test;
+    }
+
+    void is(String what, long got, long want) {
+        looked++;
+        if (got != want) {
+            wrong++;
+            System.out.println(test + ": " + what + " answered " + got + ", due is " + want);
+        }
+    }
+
+    void holds(String what, boolean holds) {
+        is(what, holds ? 1 : 0, 1);
+    }
+
+    /** Ends the program: with exit code 1 if an answer was wrong, or if none was looked at. */
+    void end() {
+        System.out.println(test + ": " + looked + " answers, " + wrong + " wrong");
+        System.exit(wrong == 0 && looked > 0 ? 0 : 1);
+    }
+}
