@@ -144,7 +144,7 @@ public final class RandomRunsTest {
         for (int k = -1; k <= model.count(2); k++) {
             same("logged(" + k + ")", program.logged(k), model.logged(k));
         }
-        for (int k = -1; k <= 4; k++) {
+        for (int k = -1; k <= 40; k++) {
             same("outcome(" + k + ")", program.outcome(k), model.outcome(k));
         }
         for (int what = -1; what <= 6; what++) {
