@@ -635,7 +635,8 @@ public final class ClassStarter {
         private final int[] kept = new int[MOST_STEPS * Machine.CELLS];
         /** For each depth the first thread that is not tried there yet. */
         private final int[] untried = new int[MOST_STEPS + 1];
-        private int[] found = new int[16];
+        /** Grows when it must: most programs have few outcomes, though their orders are many. */
+        private int[] found = new int[4];
         private int foundCount;
         private int orders;
         private int stuckOrders;

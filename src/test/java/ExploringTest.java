@@ -15,6 +15,8 @@ public final class ExploringTest {
         exactlyThreeThousand();
         oneMoreThanThreeThousand();
         tooManyAndStuck();
+        fewAfterTooMany();
+        firstTakesTheInit();
         manyOutcomes();
         longOrders();
         outcomesAreSorted();
@@ -234,8 +236,59 @@ public final class ExploringTest {
         due.is("none stuck", x.count(4), 0);
     }
 
-    /** Whoever is first gets the init, the others find it broken. */
+    /** Two long initialisers go through too many orders; with an interface that fails one ends early. */
+    private static void fewAfterTooMany() {
+        ClassStarter x = new ClassStarter();
+        x.declare(-1, true, false, 0);
+        x.act(0, 4, 7, 0);
+        for (int t = 0; t < 2; t++) {
+            x.declare(-1, false, false, 0);
+            for (int k = 0; k < 5; k++) {
+                x.act(t + 1, 5, k, 0);
+            }
+            x.plan(t, 0, t + 1);
+        }
+        due.is("too many", x.explore(), -2);
+        due.is("one fails", x.inherit(1, 0, true), 1);
+        due.is("none after full", x.count(3), 0);
+        due.is("few", x.explore(), 1);
+        due.is("five steps among twelve", x.count(3), 792);
+        due.is("error 7", x.outcome(0), 180000);
+        due.is("nothing was stepped", x.count(1), 0);
+        due.is("both fail", x.inherit(2, 0, true), 1);
+        due.is("the orders of the last explore", x.count(3), 792);
+        due.is("few", x.explore(), 2);
+        due.is("thread 0 was first", x.outcome(0), 182200);
+        due.is("thread 1 was first", x.outcome(1), 221800);
+    }
+
+    /** Circles of uses with exceptions in them, which end in more ways than the row has room for at first. */
     private static void manyOutcomes() {
+        ClassStarter x = new ClassStarter();
+        Model same = new Model();
+        int[] superclasses = {-1, 0, 0, -1, -1};
+        for (int superclass : superclasses) {
+            due.is("declare", x.declare(superclass, false, false, 0), same.declare(superclass, false, false, 0));
+        }
+        int[][] actions = {{0, 0, 2}, {0, 0, 0}, {1, 0, 4}, {1, 3, 6}, {2, 0, 1}, {3, 0, 4}, {3, 0, 1}, {3, 3, 5}, {4, 0, 3}};
+        for (int[] action : actions) {
+            due.is("act", x.act(action[0], action[1], action[2], 0), same.act(action[0], action[1], action[2], 0));
+        }
+        int[][] plans = {{0, 0, 2}, {1, 0, 0}, {1, 0, 3}, {2, 0, 1}, {2, 6, 0}, {2, 6, 0}};
+        for (int[] plan : plans) {
+            due.is("plan", x.plan(plan[0], plan[1], plan[2]), same.plan(plan[0], plan[1], plan[2]));
+        }
+        due.is("the model's explore", same.explore(), 10);
+        due.is("explore", x.explore(), 10);
+        for (int k = 0; k <= 10; k++) {
+            due.is("outcome(" + k + ")", x.outcome(k), same.outcome(k));
+        }
+        due.is("orders", x.count(3), same.count(3));
+        due.is("stuck", x.count(4), same.count(4));
+    }
+
+    /** Whoever is first gets the init, the others find it broken. */
+    private static void firstTakesTheInit() {
         ClassStarter x = new ClassStarter();
         x.declare(-1, false, false, 0);
         x.act(0, 3, 1, 0);
