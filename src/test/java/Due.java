@@ -1,6 +1,7 @@
 /** Counts and prints the answers that are not the ones that are due. */
 final class Due {
     private final String test;
+    private String sentence = "";
     private int wrong;
     private int looked;
 
@@ -8,16 +9,29 @@ final class Due {
         this.test = test;
     }
 
+    /** The answers from here on are due by this sentence of the document. */
+    void by(String words) {
+        sentence = ", \"" + words + "\"";
+    }
+
     void is(String what, long got, long want) {
         looked++;
         if (got != want) {
             wrong++;
-            System.out.println(test + ": " + what + " answered " + got + ", due is " + want);
+            System.out.println(test + sentence + ": " + what + " answered " + got + ", due is " + want);
         }
     }
 
     void holds(String what, boolean holds) {
         is(what, holds ? 1 : 0, 1);
+    }
+
+    void same(String what, String got, String want) {
+        looked++;
+        if (!got.equals(want)) {
+            wrong++;
+            System.out.println(test + sentence + ": " + what + " shows\n  " + got + "\ndue is\n  " + want);
+        }
     }
 
     /** Ends the program: with exit code 1 if an answer was wrong, or if none was looked at. */
