@@ -14,6 +14,11 @@ final class Due {
         sentence = ", \"" + words + "\"";
     }
 
+    /** The same for a sentence outside the promises, with the promise that it bears on. */
+    void by(int promise, String words) {
+        sentence = ", promise " + promise + ", \"" + words + "\"";
+    }
+
     void is(String what, long got, long want) {
         looked++;
         if (got != want) {

@@ -15,13 +15,15 @@ public final class TermsTest {
         useOfTheFirstAndTheLast();
         copyOfEachStatic();
         constantCopyIsNoUse();
+        constantOfAnInterface();
         copyOfTheOwnStatics();
         guardIsTheLastAction();
         guardReachesTheNextOnly();
         guardBehindGuard();
         guardOfASoundAction();
-        guardAheadOfAllElse();
+        guardedThreadGoesOn();
         useAheadIsNotGuarded();
+        useAheadGuardsNothing();
         pendingGoesFirst();
         doneOrBusyByThisThread();
         failedIsBrokenOnly();
@@ -47,7 +49,7 @@ public final class TermsTest {
     }
 
     private static void fiveHundredAndTwelveCalls() {
-        due.by("An object is used for at most 512 calls after it has been made");
+        due.by(1, "An object is used for at most 512 calls after it has been made");
         ClassStarter x = new ClassStarter();
         x.declare(-1, false, false, 0);
         x.act(0, 5, 3, 0);
@@ -67,7 +69,7 @@ public final class TermsTest {
 
     /** It explores 1680 orders and steps by turns until its calls are used up. */
     private static void fiveHundredAndTwelveCallsWithExplore() {
-        due.by("An object is used for at most 512 calls after it has been made");
+        due.by(14, "An object is used for at most 512 calls after it has been made");
         ClassStarter x = new ClassStarter();
         for (int k = 0; k < 3; k++) {
             x.plan(0, 5, 1);
@@ -82,7 +84,7 @@ public final class TermsTest {
     }
 
     private static void emptyInitialiser() {
-        due.by("It stands at a PART, the first one when it begins, or behind the last.");
+        due.by(6, "It stands at a PART, the first one when it begins, or behind the last.");
         ClassStarter x = classes(1);
         x.plan(0, 0, 0);
         steps(x, 0, 1);
@@ -93,7 +95,7 @@ public final class TermsTest {
     }
 
     private static void fullInitialiser() {
-        due.by("an INITIALISER of at most 5 actions");
+        due.by(4, "an INITIALISER of at most 5 actions");
         ClassStarter x = classes(1);
         for (int k = 0; k < 5; k++) {
             x.act(0, 1, 0, 10 + k);
@@ -111,7 +113,7 @@ public final class TermsTest {
 
     /** All classes with all that they can have, in one chain; all plans full: no row may be too short. */
     private static void everythingFull() {
-        due.by("CLASSES 0 .. 7 .. THREADS 0 .. 2 each have a PLAN of at most 3 actions");
+        due.by(6, "CLASSES 0 .. 7 .. THREADS 0 .. 2 each have a PLAN of at most 3 actions");
         ClassStarter x = new ClassStarter();
         for (int c = 0; c <= 7; c++) {
             x.declare(c < 3 ? -1 : c - 1, c < 2, false, 0);
@@ -144,7 +146,7 @@ public final class TermsTest {
     }
 
     private static void interfaceHasJustItsActions() {
-        due.by("(for an interface just its actions)");
+        due.by(6, "(for an interface just its actions)");
         ClassStarter x = new ClassStarter();
         x.declare(-1, true, false, 0);
         x.declare(-1, true, false, 0);
@@ -158,7 +160,7 @@ public final class TermsTest {
     }
 
     private static void superclassThenInterfacesThenActions() {
-        due.by("a use of its superclass, if it has one, then of its DEFAULTED interfaces in order, then its actions in order");
+        due.by(3, "a use of its superclass, if it has one, then of its DEFAULTED interfaces in order, then its actions in order");
         ClassStarter x = new ClassStarter();
         for (int c = 0; c <= 2; c++) {
             x.declare(-1, c < 2, false, 0);
@@ -168,10 +170,12 @@ public final class TermsTest {
         x.act(3, 5, 30, 0);
         x.inherit(3, 1, true);
         x.act(3, 5, 31, 0);
+        x.act(3, 1, 0, 7);
         x.inherit(3, 0, true);
         x.plan(0, 0, 3);
-        steps(x, 0, 13);
+        steps(x, 0, 14);
         due.is("ended", x.result(0), 0);
+        due.is("put", x.statics(3, 0), 7);
         long[] log = {2, 1, 0, 30, 31};
         for (int k = 0; k < log.length; k++) {
             due.is("logged(" + k + ")", x.logged(k), log[k]);
@@ -179,7 +183,7 @@ public final class TermsTest {
     }
 
     private static void useOfTheFirstAndTheLast() {
-        due.by("0 USE class a (0 .. 7).");
+        due.by(4, "0 USE class a (0 .. 7).");
         ClassStarter x = classes(8);
         x.act(3, 0, 0, 0);
         x.act(3, 0, 7, 0);
@@ -193,7 +197,7 @@ public final class TermsTest {
     }
 
     private static void copyOfEachStatic() {
-        due.by("2 COPY static a (0, 1) of class b to static 0 of the own class");
+        due.by(9, "2 COPY static a (0, 1) of class b to static 0 of the own class");
         ClassStarter x = new ClassStarter();
         x.declare(-1, false, true, MAX);
         x.act(0, 1, 0, MIN);
@@ -212,7 +216,7 @@ public final class TermsTest {
     }
 
     private static void constantCopyIsNoUse() {
-        due.by("a use of class b, but none if a is 1 and class b has it CONSTANT");
+        due.by(2, "a use of class b, but none if a is 1 and class b has it CONSTANT");
         ClassStarter x = new ClassStarter();
         x.declare(-1, false, true, 5);
         x.act(0, 4, 0, 0);
@@ -234,8 +238,23 @@ public final class TermsTest {
         due.is("no fault", x.inside(1), 1);
     }
 
+    private static void constantOfAnInterface() {
+        due.by(2, "a use of class b, but none if a is 1 and class b has it CONSTANT");
+        ClassStarter x = new ClassStarter();
+        x.declare(-1, true, true, 5);
+        x.declare(-1, false, false, 0);
+        x.act(1, 2, 1, 0);
+        x.act(1, 2, 0, 0);
+        x.plan(0, 0, 1);
+        steps(x, 0, 2);
+        due.is("copied", x.statics(1, 0), 5);
+        due.is("new yet", x.state(0), 0);
+        steps(x, 0, 1);
+        due.is("static 0 is a use", x.state(0), 4);
+    }
+
     private static void copyOfTheOwnStatics() {
-        due.by("BUSY by this thread: MADE .. MADE: for 2 the static is copied");
+        due.by(9, "BUSY by this thread: MADE .. MADE: for 2 the static is copied");
         ClassStarter x = new ClassStarter();
         x.declare(-1, false, true, 6);
         x.act(0, 1, 0, 4);
@@ -251,7 +270,7 @@ public final class TermsTest {
     }
 
     private static void guardIsTheLastAction() {
-        due.by("6 GUARD: a fault of the next action is dropped");
+        due.by(6, "6 GUARD: a fault of the next action is dropped");
         ClassStarter x = classes(2);
         x.act(0, 6, 0, 0);
         x.act(1, 0, 0, 0);
@@ -268,7 +287,7 @@ public final class TermsTest {
     }
 
     private static void guardReachesTheNextOnly() {
-        due.by("if the PART at which it stands is an action right behind a 6");
+        due.by(6, "if the PART at which it stands is an action right behind a 6");
         ClassStarter x = classes(1);
         x.act(0, 6, 0, 0);
         x.act(0, 5, 1, 0);
@@ -286,7 +305,7 @@ public final class TermsTest {
     }
 
     private static void guardBehindGuard() {
-        due.by("if the PART at which it stands is an action right behind a 6");
+        due.by(6, "if the PART at which it stands is an action right behind a 6");
         ClassStarter x = classes(1);
         x.act(0, 6, 0, 0);
         x.act(0, 6, 0, 0);
@@ -300,7 +319,7 @@ public final class TermsTest {
     }
 
     private static void guardOfASoundAction() {
-        due.by("6 GUARD: a fault of the next action is dropped");
+        due.by(6, "6 GUARD: a fault of the next action is dropped");
         ClassStarter x = classes(1);
         x.plan(0, 6, 0);
         x.plan(0, 0, 0);
@@ -310,8 +329,8 @@ public final class TermsTest {
         due.is("logged", x.count(2), 0);
     }
 
-    private static void guardAheadOfAllElse() {
-        due.by("the fault is dropped, its number LOGGED, and it stands at the next PART");
+    private static void guardedThreadGoesOn() {
+        due.by(13, "the fault is dropped, its number LOGGED, and it stands at the next PART");
         ClassStarter x = classes(1);
         x.act(0, 6, 0, 0);
         x.act(0, 4, 9, 0);
@@ -324,9 +343,8 @@ public final class TermsTest {
         due.is("the next part", x.statics(0, 0), 7);
     }
 
-    /** A guard that ends one class's initialiser stands right before nothing in the class above it. */
     private static void useAheadIsNotGuarded() {
-        due.by("if the PART at which it stands is an action");
+        due.by(6, "if the PART at which it stands is an action");
         ClassStarter x = new ClassStarter();
         x.declare(-1, true, false, 0);
         x.act(0, 3, 4, 0);
@@ -341,8 +359,22 @@ public final class TermsTest {
         due.is("failed", x.state(1), 2);
     }
 
+    private static void useAheadGuardsNothing() {
+        due.by(6, "an action right behind a 6");
+        ClassStarter x = new ClassStarter();
+        x.declare(-1, true, false, 0);
+        x.act(0, 6, 0, 0);
+        x.declare(-1, false, false, 0);
+        x.act(1, 4, 3, 0);
+        x.inherit(1, 0, true);
+        x.plan(0, 0, 1);
+        steps(x, 0, 6);
+        due.is("the first action behind a use ahead", x.result(0), 14);
+        due.is("logged", x.count(2), 0);
+    }
+
     private static void pendingGoesFirst() {
-        due.by("There is a PENDING fault: its class is FAILED and the FRAME goes.");
+        due.by(6, "There is a PENDING fault: its class is FAILED and the FRAME goes.");
         ClassStarter x = classes(2);
         x.act(0, 0, 1, 0);
         x.act(1, 4, 0, 0);
@@ -360,7 +392,7 @@ public final class TermsTest {
     }
 
     private static void doneOrBusyByThisThread() {
-        due.by("one that is DONE, or BUSY by this thread: MADE");
+        due.by(6, "one that is DONE, or BUSY by this thread: MADE");
         ClassStarter x = classes(2);
         x.act(0, 0, 1, 0);
         x.act(1, 0, 0, 0);
@@ -375,7 +407,7 @@ public final class TermsTest {
     }
 
     private static void failedIsBrokenOnly() {
-        due.by("FAILED: BROKEN COMES");
+        due.by(10, "FAILED: BROKEN COMES");
         ClassStarter x = classes(1);
         x.act(0, 4, 3, 0);
         for (int t = 0; t <= 2; t++) {
@@ -394,7 +426,7 @@ public final class TermsTest {
     }
 
     private static void exceptionBecomesInitOnce() {
-        due.by("An exception n becomes INIT n.");
+        due.by(13, "An exception n becomes INIT n.");
         ClassStarter x = new ClassStarter();
         for (int c = 0; c <= 7; c++) {
             x.declare(c - 1, false, false, 0);
@@ -408,7 +440,7 @@ public final class TermsTest {
     }
 
     private static void otherFaultsStay() {
-        due.by("An exception n becomes INIT n. The fault COMES to the FRAME that is on top now.");
+        due.by(10, "An exception n becomes INIT n. The fault COMES to the FRAME that is on top now.");
         int[][] actionsAndResults = {{4, 0, 11}, {4, 9, 20}, {0, 7, 21}};
         for (int[] row : actionsAndResults) {
             ClassStarter x = new ClassStarter();
@@ -426,7 +458,7 @@ public final class TermsTest {
     }
 
     private static void faultInTheDeepestFrame() {
-        due.by("A thread has a stack of FRAMES");
+        due.by(11, "A thread has a stack of FRAMES");
         ClassStarter x = classes(8);
         for (int c = 0; c <= 6; c++) {
             x.act(c, 0, c + 1, 0);
@@ -444,7 +476,7 @@ public final class TermsTest {
     }
 
     private static void endsWithNoStepMore() {
-        due.by("(with no step more; with an empty PLAN from the start)");
+        due.by(10, "(with no step more; with an empty PLAN from the start)");
         ClassStarter x = classes(1);
         x.plan(0, 0, 0);
         due.is("an empty plan", x.result(1), 0);
