@@ -7,6 +7,10 @@ public final class TermsTest {
     public static void main(String[] args) {
         fiveHundredAndTwelveCalls();
         fiveHundredAndTwelveCallsWithExplore();
+        declaredInThisOrder();
+        interfaceHasNoSuperclass();
+        plansHaveThreeKindsAlone();
+        leastAndGreatestFaults();
         emptyInitialiser();
         fullInitialiser();
         everythingFull();
@@ -25,6 +29,10 @@ public final class TermsTest {
         useAheadIsNotGuarded();
         useAheadGuardsNothing();
         pendingGoesFirst();
+        behindTheLastPart();
+        newOneGetsAFrame();
+        copyThatUsesNoClass();
+        endsOrPending();
         doneOrBusyByThisThread();
         failedIsBrokenOnly();
         exceptionBecomesInitOnce();
@@ -80,6 +88,53 @@ public final class TermsTest {
             due.is("step", x.step(calls % 3), 1);
             due.is("explore()", x.explore(), 1);
             due.is("reset()", x.reset(), 1);
+        }
+    }
+
+    private static void declaredInThisOrder() {
+        due.by(2, "CLASSES 0 .. 7 are declared in this order.");
+        ClassStarter x = new ClassStarter();
+        for (int c = 0; c <= 7; c++) {
+            due.is("not there before", x.state(c), -1);
+            due.is("its number", x.declare(c % 2 == 0 ? -1 : c - 1, false, true, 70 + c), c);
+            due.is("its constant", x.statics(c, 1), 70 + c);
+        }
+        due.is("no number 8", x.declare(-1, false, false, 0), -2);
+    }
+
+    private static void interfaceHasNoSuperclass() {
+        due.by(2, "An interface has no superclass");
+        ClassStarter x = classes(1);
+        due.is("with one", x.declare(0, true, false, 0), -1);
+        due.is("without", x.declare(-1, true, false, 0), 1);
+        x.plan(0, 0, 1);
+        steps(x, 0, 2);
+        due.is("it uses none", x.state(0), 0);
+    }
+
+    private static void plansHaveThreeKindsAlone() {
+        due.by(5, "a PLAN of at most 3 actions (0, 5 and 6 alone)");
+        ClassStarter x = classes(1);
+        for (int action = 1; action <= 4; action++) {
+            due.is("plan(0, " + action + ", 0)", x.plan(0, action, 0), -1);
+        }
+        due.is("plan(0, 0, 0)", x.plan(0, 0, 0), 1);
+        due.is("plan(0, 5, 0)", x.plan(0, 5, 0), 2);
+        due.is("plan(0, 6, 0)", x.plan(0, 6, 0), 3);
+        due.is("a fourth", x.plan(0, 6, 0), -2);
+    }
+
+    private static void leastAndGreatestFaults() {
+        due.by(4, "3 RAISE an exception with number a (0 .. 9). 4 RAISE an error with number a (0 .. 9).");
+        int[][] actionsAndResults = {{3, 0, 31}, {3, 9, 40}, {4, 0, 11}, {4, 9, 20}};
+        for (int[] row : actionsAndResults) {
+            ClassStarter x = classes(1);
+            due.is("act(0, " + row[0] + ", " + row[1] + ", 0)", x.act(0, row[0], row[1], 0), 1);
+            due.is("one less than the least", x.act(0, row[0], -1, 0), -1);
+            due.is("one more than the greatest", x.act(0, row[0], 10, 0), -1);
+            x.plan(0, 0, 0);
+            steps(x, 0, 3);
+            due.is("result(0)", x.result(0), row[2]);
         }
     }
 
@@ -389,6 +444,67 @@ public final class TermsTest {
         steps(x, 0, 1);
         due.is("class 0 failed", x.state(0), 2);
         due.is("ended", x.result(0), 11);
+    }
+
+    private static void behindTheLastPart() {
+        due.by(6, "It stands behind its last PART (of a class): the class is DONE and the FRAME goes; the use at which the FRAME on top now stands is MADE.");
+        ClassStarter x = classes(2);
+        x.act(0, 2, 0, 1);
+        x.act(1, 1, 0, 8);
+        x.plan(0, 0, 0);
+        steps(x, 0, 3);
+        due.is("behind the last part, busy yet", x.state(1), 4);
+        due.is("the use is not made yet", x.statics(0, 0), 0);
+        steps(x, 0, 1);
+        due.is("done", x.state(1), 1);
+        due.is("the frame is gone", x.inside(0), 0);
+        due.is("the use is made", x.statics(0, 0), 8);
+    }
+
+    private static void newOneGetsAFrame() {
+        due.by(6, "NEW: it is BUSY by this thread and a new FRAME of it is on top.");
+        for (int t = 0; t <= 2; t++) {
+            ClassStarter x = classes(2);
+            x.act(1, 5, 3, 0);
+            x.plan(t, 0, 1);
+            steps(x, t, 1);
+            due.is("busy", x.state(1), 4 + t);
+            due.is("on top", x.inside(t), 1);
+            due.is("nothing of it is done yet", x.count(2), 0);
+            due.is("the other is new", x.state(0), 0);
+        }
+    }
+
+    private static void copyThatUsesNoClass() {
+        due.by(6, "A 2 that uses no class just copies.");
+        ClassStarter x = new ClassStarter();
+        x.declare(-1, false, true, -4);
+        x.declare(-1, false, false, 0);
+        x.act(1, 2, 1, 0);
+        x.act(1, 5, 2, 0);
+        x.plan(0, 0, 1);
+        steps(x, 0, 2);
+        due.is("copied in one step", x.statics(1, 0), -4);
+        steps(x, 0, 1);
+        due.is("the next part", x.logged(0), 2);
+        due.is("the class is new", x.state(0), 0);
+    }
+
+    private static void endsOrPending() {
+        due.by(10, "else if it is a PLAN the thread ENDS with it; else it is PENDING.");
+        ClassStarter x = classes(1);
+        x.act(0, 0, 7, 0);
+        x.plan(0, 0, 7);
+        x.plan(0, 5, 1);
+        x.plan(1, 0, 0);
+        steps(x, 0, 1);
+        due.is("a plan ends at once", x.result(0), 21);
+        due.is("the rest is not reached", x.step(0), -1);
+        steps(x, 1, 2);
+        due.is("a class has it pending", x.result(1), -1);
+        due.is("busy yet", x.state(0), 5);
+        steps(x, 1, 1);
+        due.is("then the plan ends", x.result(1), 21);
     }
 
     private static void doneOrBusyByThisThread() {
