@@ -31,6 +31,13 @@ final class Due {
         is(what, holds ? 1 : 0, 1);
     }
 
+    /** Steps of one thread, of which each must be made. */
+    void steps(ClassStarter x, int t, int times) {
+        for (int k = 0; k < times; k++) {
+            is("step(" + t + ") number " + k, x.step(t), 1);
+        }
+    }
+
     void same(String what, String got, String want) {
         looked++;
         if (!got.equals(want)) {

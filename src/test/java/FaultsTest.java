@@ -19,12 +19,6 @@ public final class FaultsTest {
         due.end();
     }
 
-    private static void steps(ClassStarter x, int t, int times) {
-        for (int k = 0; k < times; k++) {
-            due.is("step(" + t + ") number " + k, x.step(t), 1);
-        }
-    }
-
     private static void resultOfEveryNumber() {
         for (int n = 0; n <= 9; n++) {
             ClassStarter x = new ClassStarter();
@@ -35,14 +29,14 @@ public final class FaultsTest {
             x.plan(0, 0, 0);
             x.plan(1, 0, 1);
             x.plan(2, 0, 2);
-            steps(x, 0, 2);
+            due.steps(x, 0, 2);
             due.is("pending: no result", x.result(0), -1);
             due.is("pending: busy", x.state(0), 4);
             due.is("pending: inside", x.inside(0), 0);
             due.is("pending: does not wait", x.waitsFor(0), -1);
-            steps(x, 0, 1);
-            steps(x, 1, 3);
-            steps(x, 2, 1);
+            due.steps(x, 0, 1);
+            due.steps(x, 1, 3);
+            due.steps(x, 2, 1);
             due.is("exception " + n, x.result(0), 31 + n);
             due.is("error " + n, x.result(1), 11 + n);
             due.is("missing", x.result(2), 21);
@@ -65,7 +59,7 @@ public final class FaultsTest {
             x.act(0, 4, n, 0);
             x.act(0, 5, 50, 0);
             x.plan(0, 0, 0);
-            steps(x, 0, 7);
+            due.steps(x, 0, 7);
             due.is("ended", x.result(0), 0);
             due.is("done", x.state(0), 1);
             due.is("exception " + n, x.logged(0), n);
@@ -94,10 +88,10 @@ public final class FaultsTest {
             x.act(3, 2, 0, 1);
             x.plan(0, 0, 2);
             x.plan(0, 0, 3);
-            steps(x, 0, 10);
+            due.steps(x, 0, 10);
             due.is("the class that guards is done", x.state(2), 1);
             due.is("the others failed", x.state(0) * 10 + x.state(1), 22);
-            steps(x, 0, 6);
+            due.steps(x, 0, 6);
             due.is("ended", x.result(0), 0);
             due.is("init " + n, x.logged(0), 100 + n);
             due.is("error " + n, x.logged(1), n);
@@ -116,7 +110,7 @@ public final class FaultsTest {
         x.plan(0, 6, 0);
         x.plan(0, 5, 0);
         x.plan(0, 0, 0);
-        steps(x, 0, 7);
+        due.steps(x, 0, 7);
         due.is("init 2 went through", x.result(0), 33);
         due.is("logged", x.count(2), 2);
         due.is("failed", x.state(0), 2);
@@ -127,7 +121,7 @@ public final class FaultsTest {
         x.plan(0, 6, 0);
         x.plan(0, 6, 0);
         x.plan(0, 0, 5);
-        steps(x, 0, 3);
+        due.steps(x, 0, 3);
         due.is("dropped", x.result(0), 0);
         due.is("logged", x.logged(0), -1);
     }
@@ -144,15 +138,15 @@ public final class FaultsTest {
         x.act(2, 6, 0, 0);
         x.act(2, 0, 1, 0);
         x.plan(0, 0, 2);
-        steps(x, 0, 6);
+        due.steps(x, 0, 6);
         due.is("class 0 failed", x.state(0), 2);
         due.is("pending in class 1", x.inside(0), 1);
         due.is("nothing logged", x.count(2), 0);
-        steps(x, 0, 1);
+        due.steps(x, 0, 1);
         due.is("class 1 failed", x.state(1), 2);
         due.is("guarded in class 2", x.logged(0), 6);
         due.is("logged", x.count(2), 1);
-        steps(x, 0, 1);
+        due.steps(x, 0, 1);
         due.is("class 2 is done", x.state(2), 1);
         due.is("ended", x.result(0), 0);
     }
@@ -167,7 +161,7 @@ public final class FaultsTest {
         x.act(2, 5, 2, 0);
         x.inherit(2, 0, true);
         x.plan(0, 0, 2);
-        steps(x, 0, 8);
+        due.steps(x, 0, 8);
         due.is("the interface's exception ends it", x.result(0), 32);
         due.is("the superclass is done", x.state(1), 1);
         due.is("the class failed", x.state(2), 2);
@@ -182,12 +176,12 @@ public final class FaultsTest {
             x.act(c, 5, c, 0);
         }
         x.plan(0, 0, 0);
-        steps(x, 0, 4);
+        due.steps(x, 0, 4);
         for (int c = 2; c >= 0; c--) {
             due.is("inside", x.inside(0), c);
             due.is("busy yet", x.state(c), 4);
             due.is("not ended", x.result(0), -1);
-            steps(x, 0, 1);
+            due.steps(x, 0, 1);
             due.is("failed", x.state(c), 2);
         }
         due.is("ended", x.result(0), 19);
@@ -202,7 +196,7 @@ public final class FaultsTest {
         x.declare(1, false, false, 0);
         x.plan(0, 6, 0);
         x.plan(0, 0, 2);
-        steps(x, 0, 8);
+        due.steps(x, 0, 8);
         due.is("init 9, once", x.logged(0), 109);
         due.is("ended", x.result(0), 0);
     }
@@ -217,14 +211,14 @@ public final class FaultsTest {
         x.act(2, 0, 7, 0);
         for (int t = 0; t < 3; t++) {
             x.plan(t, 0, t);
-            steps(x, t, 3);
+            due.steps(x, t, 3);
             due.is("missing stays missing", x.result(t), 21);
             due.is("failed", x.state(t), 2);
             x.reset();
         }
         due.is("declared later", x.declare(-1, false, true, 0), 3);
         due.is("declared later", x.declare(-1, false, true, 6), 4);
-        steps(x, 0, 3);
+        due.steps(x, 0, 3);
         due.is("found now, as a constant", x.statics(0, 0), 6);
         due.is("without a use", x.state(4), 0);
     }
@@ -240,12 +234,12 @@ public final class FaultsTest {
         x.plan(1, 0, 1);
         x.plan(2, 6, 0);
         x.plan(2, 0, 1);
-        steps(x, 0, 5);
+        due.steps(x, 0, 5);
         due.is("the same thread finds it broken", x.result(0), 22);
-        steps(x, 1, 3);
+        due.steps(x, 1, 3);
         due.is("a subclass fails with broken", x.result(1), 22);
         due.is("and is failed", x.state(1), 2);
-        steps(x, 2, 2);
+        due.steps(x, 2, 2);
         due.is("guarded", x.result(2), 0);
         due.is("init logged", x.logged(0), 100);
         due.is("broken logged", x.logged(1), -2);
@@ -257,10 +251,10 @@ public final class FaultsTest {
         x.act(0, 4, 0, 0);
         x.plan(0, 0, 0);
         x.plan(1, 0, 0);
-        steps(x, 0, 2);
+        due.steps(x, 0, 2);
         due.is("waits while the fault is pending", x.step(1), 0);
-        steps(x, 0, 1);
-        steps(x, 1, 1);
+        due.steps(x, 0, 1);
+        due.steps(x, 1, 1);
         due.is("broken", x.result(1), 22);
         due.is("error 0", x.result(0), 11);
     }
@@ -275,11 +269,11 @@ public final class FaultsTest {
         x.act(1, 6, 0, 0);
         x.act(1, 2, 0, 0);
         x.plan(0, 0, 1);
-        steps(x, 0, 7);
+        due.steps(x, 0, 7);
         due.is("logged", x.logged(0), 0);
         due.is("the failed class keeps its static", x.statics(0, 0), 5);
         due.is("nothing was copied", x.statics(1, 0), 7);
-        steps(x, 0, 1);
+        due.steps(x, 0, 1);
         due.is("done", x.state(1), 1);
     }
 }

@@ -19,12 +19,6 @@ public final class Promise06Test {
         due.end();
     }
 
-    private static void steps(ClassStarter x, int t, int times) {
-        for (int k = 0; k < times; k++) {
-            due.is("step(" + t + ")", x.step(t), 1);
-        }
-    }
-
     /** Each thread uses the one class, which logs once. */
     private static ClassStarter oneClassForAll() {
         ClassStarter x = new ClassStarter();
@@ -40,14 +34,14 @@ public final class Promise06Test {
         due.by("One STEP of thread t: 1.");
         for (int t = 0; t <= 2; t++) {
             ClassStarter x = oneClassForAll();
-            steps(x, t, 1);
+            due.steps(x, t, 1);
             due.is("steps", x.count(1), 1);
             due.is("the class is begun", x.state(0), 4 + t);
             due.is("no more than that", x.count(2), 0);
-            steps(x, t, 1);
+            due.steps(x, t, 1);
             due.is("logged", x.count(2), 1);
             due.is("no more than that", x.state(0), 4 + t);
-            steps(x, t, 1);
+            due.steps(x, t, 1);
             due.is("done", x.state(0), 1);
             due.is("steps", x.count(1), 3);
         }
@@ -56,13 +50,13 @@ public final class Promise06Test {
     private static void waits() {
         due.by("It WAITS: 0.");
         ClassStarter x = oneClassForAll();
-        steps(x, 1, 1);
+        due.steps(x, 1, 1);
         due.is("step(0)", x.step(0), 0);
         due.is("step(2)", x.step(2), 0);
         due.is("step(0) again", x.step(0), 0);
-        steps(x, 1, 2);
-        steps(x, 0, 1);
-        steps(x, 2, 1);
+        due.steps(x, 1, 2);
+        due.steps(x, 0, 1);
+        due.steps(x, 2, 1);
         due.is("ended: now it is refused", x.step(0), -1);
     }
 
@@ -74,8 +68,8 @@ public final class Promise06Test {
             x.act(c, 0, 1 - c, 0);
             x.plan(c, 0, c);
         }
-        steps(x, 0, 1);
-        steps(x, 1, 1);
+        due.steps(x, 0, 1);
+        due.steps(x, 1, 1);
         due.is("stuck", x.result(0), 50);
         due.is("step(0)", x.step(0), 0);
         due.is("step(1)", x.step(1), 0);
@@ -85,7 +79,7 @@ public final class Promise06Test {
     private static void waitingChangesNothing() {
         due.by("the thread WAITS: it makes no STEP");
         ClassStarter x = oneClassForAll();
-        steps(x, 0, 1);
+        due.steps(x, 0, 1);
         String before = Picture.of(x);
         due.is("step(1)", x.step(1), 0);
         due.is("step(2)", x.step(2), 0);
@@ -101,7 +95,7 @@ public final class Promise06Test {
             due.is("step(" + t + ") before", x.step(t), -1);
         }
         due.is("steps", x.count(1), 0);
-        steps(x, 2, 1);
+        due.steps(x, 2, 1);
         String before = Picture.of(x);
         for (int t : wrong) {
             due.is("step(" + t + ") begun", x.step(t), -1);
@@ -114,12 +108,12 @@ public final class Promise06Test {
         ClassStarter x = new ClassStarter();
         x.plan(0, 5, 1);
         x.plan(1, 5, 2);
-        steps(x, 0, 1);
+        due.steps(x, 0, 1);
         String before = Picture.of(x);
         due.is("step(0)", x.step(0), -1);
         due.is("step(0) again", x.step(0), -1);
         due.same("after refused steps", Picture.of(x), before);
-        steps(x, 1, 1);
+        due.steps(x, 1, 1);
         due.is("step(1)", x.step(1), -1);
     }
 
@@ -132,7 +126,7 @@ public final class Promise06Test {
         x.plan(1, 5, 0);
         due.is("step(0)", x.step(0), -1);
         due.is("step(2)", x.step(2), -1);
-        steps(x, 1, 1);
+        due.steps(x, 1, 1);
     }
 
     /** More of the plan stands behind the fault, and is not reached. */
@@ -147,10 +141,10 @@ public final class Promise06Test {
                 x.plan(t, 0, 0);
                 x.plan(t, 5, 1);
             }
-            steps(x, 0, row[3]);
+            due.steps(x, 0, row[3]);
             due.is("result(0)", x.result(0), row[2]);
             due.is("step(0)", x.step(0), -1);
-            steps(x, 1, 1);
+            due.steps(x, 1, 1);
             due.is("result(1)", x.result(1), 22);
             due.is("step(1)", x.step(1), -1);
             due.is("nothing logged", x.count(2), 0);
@@ -175,7 +169,7 @@ public final class Promise06Test {
         for (int t = 0; t <= 2; t++) {
             ClassStarter x = new ClassStarter();
             x.plan(t, 6, 0);
-            steps(x, t, 1);
+            due.steps(x, t, 1);
             due.is("begun", x.count(5), 1);
             due.is("declare", x.declare(-1, false, false, 0), -1);
             due.is("refused now", x.step(t), -1);
@@ -186,7 +180,7 @@ public final class Promise06Test {
     private static void begunWhileOneWaits() {
         due.by("All is begun from then on");
         ClassStarter x = oneClassForAll();
-        steps(x, 0, 1);
+        due.steps(x, 0, 1);
         due.is("step(1)", x.step(1), 0);
         due.is("begun", x.count(5), 1);
         due.is("plan", x.plan(1, 5, 0), -1);

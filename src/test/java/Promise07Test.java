@@ -19,12 +19,6 @@ public final class Promise07Test {
         due.end();
     }
 
-    private static void steps(ClassStarter x, int t, int times) {
-        for (int k = 0; k < times; k++) {
-            due.is("step(" + t + ")", x.step(t), 1);
-        }
-    }
-
     /** Class 0 ends well, class 1 fails, class 2 uses both; each thread begins with one of them. */
     private static ClassStarter three() {
         ClassStarter x = new ClassStarter();
@@ -55,7 +49,7 @@ public final class Promise07Test {
         due.by("How many steps were made.");
         for (int times = 1; times <= 5; times++) {
             ClassStarter x = three();
-            steps(x, 0, times);
+            due.steps(x, 0, times);
             due.is("reset()", x.reset(), times);
         }
     }
@@ -63,8 +57,8 @@ public final class Promise07Test {
     private static void waitingAndRefusedAreNone() {
         due.by("How many steps were made.");
         ClassStarter x = three();
-        steps(x, 0, 1);
-        steps(x, 2, 1);
+        due.steps(x, 0, 1);
+        due.steps(x, 2, 1);
         due.is("waits", x.step(2), 0);
         due.is("refused", x.step(3), -1);
         x.explore();
@@ -74,19 +68,19 @@ public final class Promise07Test {
     private static void twice() {
         due.by("How many steps were made.");
         ClassStarter x = three();
-        steps(x, 0, 3);
+        due.steps(x, 0, 3);
         due.is("first", x.reset(), 3);
         due.is("second", x.reset(), 0);
-        steps(x, 1, 2);
+        due.steps(x, 1, 2);
         due.is("only those since", x.reset(), 2);
     }
 
     private static void classesAreNew() {
         due.by("classes NEW");
         ClassStarter x = three();
-        steps(x, 0, 4);
-        steps(x, 1, 4);
-        steps(x, 2, 1);
+        due.steps(x, 0, 4);
+        due.steps(x, 1, 4);
+        due.steps(x, 2, 1);
         due.is("done", x.state(0), 1);
         due.is("failed", x.state(1), 2);
         due.is("busy", x.state(2), 6);
@@ -94,14 +88,14 @@ public final class Promise07Test {
         for (int c = 0; c <= 2; c++) {
             due.is("state(" + c + ")", x.state(c), 0);
         }
-        steps(x, 2, 2);
+        due.steps(x, 2, 2);
         due.is("it is begun anew", x.inside(2), 0);
     }
 
     private static void staticsAsDeclared() {
         due.by("statics as declared");
         ClassStarter x = three();
-        steps(x, 2, 5);
+        due.steps(x, 2, 5);
         due.is("static 0 of class 0", x.statics(0, 0), 3);
         due.is("static 0 of class 2", x.statics(2, 0), 3);
         x.reset();
@@ -114,13 +108,13 @@ public final class Promise07Test {
     private static void nothingLogged() {
         due.by("nothing logged");
         ClassStarter x = three();
-        steps(x, 0, 5);
+        due.steps(x, 0, 5);
         due.is("count(2)", x.count(2), 2);
         x.reset();
         due.is("count(2)", x.count(2), 0);
         due.is("logged(0)", x.logged(0), ClassStarter.NONE);
         due.is("logged(1)", x.logged(1), ClassStarter.NONE);
-        steps(x, 0, 3);
+        due.steps(x, 0, 3);
         due.is("the first anew", x.logged(0), 1);
         due.is("no second", x.logged(1), ClassStarter.NONE);
     }
@@ -128,11 +122,11 @@ public final class Promise07Test {
     private static void threadsAtTheStart() {
         due.by("threads at the start of their PLANs");
         ClassStarter x = three();
-        steps(x, 0, 5);
+        due.steps(x, 0, 5);
         due.is("ended without fault", x.result(0), 0);
-        steps(x, 1, 4);
+        due.steps(x, 1, 4);
         due.is("ended with a fault", x.result(1), 33);
-        steps(x, 2, 2);
+        due.steps(x, 2, 2);
         due.is("inside", x.inside(2), 2);
         x.reset();
         for (int t = 0; t <= 2; t++) {
@@ -141,7 +135,7 @@ public final class Promise07Test {
             due.is("waitsFor(" + t + ")", x.waitsFor(t), -1);
         }
         for (int t = 0; t <= 2; t++) {
-            steps(x, t, 1);
+            due.steps(x, t, 1);
             due.is("its first use", x.inside(t), t);
         }
     }
@@ -149,9 +143,9 @@ public final class Promise07Test {
     private static void pendingIsGone() {
         due.by("All is as before the first STEP");
         ClassStarter x = three();
-        steps(x, 1, 3);
+        due.steps(x, 1, 3);
         due.is("reset() with a fault pending", x.reset(), 3);
-        steps(x, 1, 1);
+        due.steps(x, 1, 1);
         due.is("class 1 is begun", x.state(1), 5);
         due.is("inside it", x.inside(1), 1);
     }
@@ -164,20 +158,20 @@ public final class Promise07Test {
             x.act(c, 0, 1 - c, 0);
             x.plan(c, 0, c);
         }
-        steps(x, 0, 1);
-        steps(x, 1, 1);
+        due.steps(x, 0, 1);
+        due.steps(x, 1, 1);
         due.is("stuck", x.result(1), 50);
         due.is("reset()", x.reset(), 2);
-        steps(x, 1, 5);
+        due.steps(x, 1, 5);
         due.is("ended", x.result(1), 0);
-        steps(x, 0, 1);
+        due.steps(x, 0, 1);
         due.is("ended", x.result(0), 0);
     }
 
     private static void notBegun() {
         due.by("and not begun");
         ClassStarter x = three();
-        steps(x, 0, 1);
+        due.steps(x, 0, 1);
         due.is("begun", x.count(5), 1);
         x.reset();
         due.is("count(5)", x.count(5), 0);
@@ -195,8 +189,8 @@ public final class Promise07Test {
         x.declare(-1, false, false, 0);
         x.inherit(4, 3, true);
         String before = Picture.of(x);
-        steps(x, 0, 5);
-        steps(x, 1, 4);
+        due.steps(x, 0, 5);
+        due.steps(x, 1, 4);
         x.reset();
         due.same("after it", Picture.of(x), before);
         due.is("the interface", x.inherit(4, 3, true), -1);

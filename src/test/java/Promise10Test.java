@@ -17,12 +17,6 @@ public final class Promise10Test {
         due.end();
     }
 
-    private static void steps(ClassStarter x, int t, int times) {
-        for (int k = 0; k < times; k++) {
-            due.is("step(" + t + ")", x.step(t), 1);
-        }
-    }
-
     private static void outOfRange() {
         due.by("The RESULT of thread t 0 .. 2 now; REFUSED for another");
         int[] wrong = {Integer.MIN_VALUE, -1, 3, 4, Integer.MAX_VALUE};
@@ -31,7 +25,7 @@ public final class Promise10Test {
             due.is("result(" + t + ")", x.result(t), -1);
         }
         x.plan(0, 5, 0);
-        steps(x, 0, 1);
+        due.steps(x, 0, 1);
         for (int t : wrong) {
             due.is("result(" + t + ") behind the end", x.result(t), -1);
         }
@@ -49,7 +43,7 @@ public final class Promise10Test {
             }
             for (int k = 0; k < length; k++) {
                 due.is("before its last", x.result(1), -1);
-                steps(x, 1, 1);
+                due.steps(x, 1, 1);
             }
             due.is("behind its last", x.result(1), 0);
         }
@@ -70,9 +64,9 @@ public final class Promise10Test {
         x.declare(-1, false, false, 0);
         x.act(0, action, n, 0);
         x.plan(2, 0, 0);
-        steps(x, 2, 2);
+        due.steps(x, 2, 2);
         due.is("pending", x.result(2), -1);
-        steps(x, 2, 1);
+        due.steps(x, 2, 1);
         return x.result(2);
     }
 
@@ -95,7 +89,7 @@ public final class Promise10Test {
         for (int c = 0; c <= 7; c++) {
             ClassStarter x = new ClassStarter();
             x.plan(0, 0, c);
-            steps(x, 0, 1);
+            due.steps(x, 0, 1);
             due.is("use of " + c, x.result(0), 21);
         }
         due.is("through a class", resultOf(0, 1), 21);
@@ -110,10 +104,10 @@ public final class Promise10Test {
         x.plan(0, 0, 0);
         x.plan(1, 0, 0);
         x.plan(2, 0, 1);
-        steps(x, 0, 3);
-        steps(x, 1, 1);
+        due.steps(x, 0, 3);
+        due.steps(x, 1, 1);
         due.is("used by another thread", x.result(1), 22);
-        steps(x, 2, 3);
+        due.steps(x, 2, 3);
         due.is("through a class", x.result(2), 22);
         due.is("the first one", x.result(0), 40);
     }
@@ -124,9 +118,9 @@ public final class Promise10Test {
         x.declare(-1, false, false, 0);
         x.plan(0, 0, 0);
         due.is("at the start", x.result(0), -1);
-        steps(x, 0, 1);
+        due.steps(x, 0, 1);
         due.is("inside a class, behind its last part", x.result(0), -1);
-        steps(x, 0, 1);
+        due.steps(x, 0, 1);
         due.is("ended", x.result(0), 0);
         x.reset();
         due.is("at the start again", x.result(0), -1);
@@ -147,9 +141,9 @@ public final class Promise10Test {
     private static void stuck() {
         due.by("A thread is STUCK if it WAITS and no thread can make a STEP.");
         ClassStarter x = circle();
-        steps(x, 2, 1);
-        steps(x, 0, 1);
-        steps(x, 1, 1);
+        due.steps(x, 2, 1);
+        due.steps(x, 0, 1);
+        due.steps(x, 1, 1);
         due.is("result(0)", x.result(0), 50);
         due.is("result(1)", x.result(1), 50);
         x.step(0);
@@ -159,13 +153,13 @@ public final class Promise10Test {
     private static void waitingIsNotStuck() {
         due.by("A thread is STUCK if it WAITS and no thread can make a STEP.");
         ClassStarter x = circle();
-        steps(x, 0, 1);
+        due.steps(x, 0, 1);
         due.is("it can make a step", x.result(0), -1);
-        steps(x, 1, 1);
+        due.steps(x, 1, 1);
         due.is("thread 2 can make a step", x.result(0), -1);
         due.is("thread 2 can make a step", x.result(1), -1);
         due.is("it waits", x.waitsFor(0), 1);
-        steps(x, 2, 1);
+        due.steps(x, 2, 1);
         due.is("none can", x.result(0), 50);
         due.is("none can", x.result(1), 50);
     }
@@ -173,15 +167,15 @@ public final class Promise10Test {
     private static void endedIsNotStuck() {
         due.by("The RESULT of a thread: 0 ENDED without fault");
         ClassStarter x = circle();
-        steps(x, 0, 1);
-        steps(x, 1, 1);
-        steps(x, 2, 1);
+        due.steps(x, 0, 1);
+        due.steps(x, 1, 1);
+        due.steps(x, 2, 1);
         due.is("ended while the others are stuck", x.result(2), 0);
         x.reset();
         x.plan(2, 0, 7);
-        steps(x, 0, 1);
-        steps(x, 1, 1);
-        steps(x, 2, 2);
+        due.steps(x, 0, 1);
+        due.steps(x, 1, 1);
+        due.steps(x, 2, 2);
         due.is("ended with missing", x.result(2), 21);
         due.is("stuck", x.result(0), 50);
     }

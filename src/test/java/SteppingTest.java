@@ -15,21 +15,15 @@ public final class SteppingTest {
         due.end();
     }
 
-    private static void steps(ClassStarter x, int t, int times) {
-        for (int k = 0; k < times; k++) {
-            due.is("step(" + t + ") number " + k, x.step(t), 1);
-        }
-    }
-
     private static void stepsOfAPlainUse() {
         ClassStarter x = new ClassStarter();
         x.declare(-1, false, false, 0);
         x.plan(2, 0, 0);
-        steps(x, 2, 1);
+        due.steps(x, 2, 1);
         due.is("busy", x.state(0), 6);
         due.is("inside", x.inside(2), 0);
         due.is("not ended", x.result(2), -1);
-        steps(x, 2, 1);
+        due.steps(x, 2, 1);
         due.is("done", x.state(0), 1);
         due.is("out of it", x.inside(2), -1);
         due.is("ended", x.result(2), 0);
@@ -47,7 +41,7 @@ public final class SteppingTest {
         x.act(3, 5, 30, 0);
         x.act(3, 5, 31, 0);
         x.plan(0, 0, 3);
-        steps(x, 0, 13);
+        due.steps(x, 0, 13);
         due.is("ended", x.result(0), 0);
         long[] log = {0, 2, 1, 30, 31};
         for (int k = 0; k < log.length; k++) {
@@ -70,7 +64,7 @@ public final class SteppingTest {
         x.inherit(2, 1, true);
         x.inherit(2, 0, true);
         x.plan(0, 0, 2);
-        steps(x, 0, 13);
+        due.steps(x, 0, 13);
         due.is("ended", x.result(0), 0);
         long[] log = {101, 100, 1, 9, 2};
         for (int k = 0; k < log.length; k++) {
@@ -87,16 +81,16 @@ public final class SteppingTest {
         x.declare(0, false, false, 0);
         x.plan(0, 0, 0);
         x.plan(0, 0, 1);
-        steps(x, 0, 2);
+        due.steps(x, 0, 2);
         due.is("inside the subclass", x.inside(0), 1);
-        steps(x, 0, 1);
+        due.steps(x, 0, 1);
         due.is("its superclass is busy by the same thread", x.inside(0), 1);
-        steps(x, 0, 1);
+        due.steps(x, 0, 1);
         due.is("the subclass is done first", x.state(1), 1);
         due.is("the superclass is busy yet", x.state(0), 4);
-        steps(x, 0, 2);
+        due.steps(x, 0, 2);
         due.is("the superclass is done", x.state(0), 1);
-        steps(x, 0, 1);
+        due.steps(x, 0, 1);
         due.is("ended", x.result(0), 0);
         due.is("steps", x.count(1), 7);
     }
@@ -117,22 +111,22 @@ public final class SteppingTest {
         for (int c = 1; c < 4; c++) {
             x.plan(0, 0, c);
         }
-        steps(x, 0, 2);
+        due.steps(x, 0, 2);
         due.is("a copy of static 0 uses the class", x.inside(0), 0);
-        steps(x, 0, 1);
+        due.steps(x, 0, 1);
         due.is("put", x.statics(0, 0), Integer.MIN_VALUE);
         due.is("the constant stays", x.statics(0, 1), 77);
-        steps(x, 0, 1);
+        due.steps(x, 0, 1);
         due.is("copied", x.statics(1, 0), Integer.MIN_VALUE);
-        steps(x, 0, 1);
-        steps(x, 0, 2);
+        due.steps(x, 0, 1);
+        due.steps(x, 0, 2);
         due.is("put 5", x.statics(2, 0), 5);
-        steps(x, 0, 1);
+        due.steps(x, 0, 1);
         due.is("static 1 that is no constant is 0", x.statics(2, 0), 0);
-        steps(x, 0, 1);
-        steps(x, 0, 3);
+        due.steps(x, 0, 1);
+        due.steps(x, 0, 3);
         due.is("the own static copied to itself", x.statics(3, 0), 6);
-        steps(x, 0, 2);
+        due.steps(x, 0, 2);
         due.is("ended", x.result(0), 0);
     }
 
@@ -145,12 +139,12 @@ public final class SteppingTest {
         x.act(1, 1, 0, 3);
         x.act(1, 1, 0, 4);
         x.plan(1, 0, 0);
-        steps(x, 1, 4);
+        due.steps(x, 1, 4);
         due.is("not copied before", x.statics(0, 0), 0);
-        steps(x, 1, 1);
+        due.steps(x, 1, 1);
         due.is("copied in the step that makes it done", x.statics(0, 0), 4);
         due.is("done", x.state(1), 1);
-        steps(x, 1, 1);
+        due.steps(x, 1, 1);
         due.is("the next part", x.logged(0), 1);
     }
 
@@ -159,7 +153,7 @@ public final class SteppingTest {
         x.plan(0, 6, 5);
         x.plan(0, 5, Integer.MAX_VALUE);
         x.plan(0, 6, 5);
-        steps(x, 0, 3);
+        due.steps(x, 0, 3);
         due.is("ended", x.result(0), 0);
         due.is("logged", x.count(2), 1);
         due.is("logged(0)", x.logged(0), Integer.MAX_VALUE);
@@ -172,16 +166,16 @@ public final class SteppingTest {
         x.plan(0, 0, 0);
         x.plan(1, 0, 0);
         x.plan(2, 5, 2);
-        steps(x, 0, 1);
+        due.steps(x, 0, 1);
         due.is("waits", x.step(1), 0);
         due.is("waits again", x.step(1), 0);
         due.is("no step made", x.count(1), 1);
         due.is("waits for", x.waitsFor(1), 0);
         due.is("waiting alone is not stuck", x.result(1), -1);
-        steps(x, 0, 2);
+        due.steps(x, 0, 2);
         due.is("waits no more", x.waitsFor(1), -1);
         due.is("not begun for it", x.state(0), 1);
-        steps(x, 1, 1);
+        due.steps(x, 1, 1);
         due.is("ended", x.result(1), 0);
         due.is("the third has not ended", x.result(2), -1);
     }
@@ -193,11 +187,11 @@ public final class SteppingTest {
             x.act(c, 0, (c + 1) % 3, 0);
             x.plan(c, 0, c);
         }
-        steps(x, 0, 1);
-        steps(x, 1, 1);
+        due.steps(x, 0, 1);
+        due.steps(x, 1, 1);
         due.is("thread 0 waits while thread 2 can step", x.waitsFor(0), 1);
         due.is("and is not stuck", x.result(0), -1);
-        steps(x, 2, 1);
+        due.steps(x, 2, 1);
         for (int t = 0; t < 3; t++) {
             due.is("step of " + t, x.step(t), 0);
             due.is("result of " + t, x.result(t), 50);
