@@ -420,12 +420,14 @@ public final class TermsOfStepsTest {
         }
     }
 
-    /** Thread 0 is in class 0; each other thread comes to it by another kind of use. */
+    /** Thread 0 is in class 0; each other thread comes to it by another kind of use, the third behind an action. */
     private static void busyByAnotherWaits() {
         due.by(12, "(Of one that is BUSY by another thread: the thread WAITS: it makes no STEP.)");
         ClassStarter x = Given.classes(1);
         x.declare(0, false, false, 0);
         x.declare(-1, false, false, 0);
+        x.act(0, 1, 0, 6);
+        x.act(2, 5, 1, 0);
         x.act(2, 2, 0, 0);
         for (int t = 0; t <= 2; t++) {
             x.plan(t, 0, t);
@@ -433,19 +435,22 @@ public final class TermsOfStepsTest {
         for (int t = 0; t <= 2; t++) {
             due.steps(x, t, 1);
         }
+        due.is("not at its use yet", x.waitsFor(2), -1);
+        due.steps(x, 2, 1);
         for (int t = 1; t <= 2; t++) {
             due.is("waits for", x.waitsFor(t), 0);
             due.is("step", x.step(t), 0);
             due.is("inside as before", x.inside(t), t);
         }
-        due.is("no step more", x.count(1), 3);
+        due.is("no step more", x.count(1), 4);
         due.is("the one that is in it does not wait", x.waitsFor(0), -1);
-        due.steps(x, 0, 1);
+        due.steps(x, 0, 2);
         for (int t = 1; t <= 2; t++) {
             due.is("waits no more", x.waitsFor(t), -1);
             due.steps(x, t, 2);
             due.is("ended", x.result(t), 0);
         }
+        due.is("copied when it was done", x.statics(2, 0), 6);
     }
 
     private static void faultComesAtARaise() {
